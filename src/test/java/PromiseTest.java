@@ -22,6 +22,7 @@ public final class PromiseTest {
         bestListAtTies();
         script();
         scriptAtEdges();
+        askedFirst();
         possible();
         contained();
         distance();
@@ -207,6 +208,7 @@ public final class PromiseTest {
         dueList("i before j", x, 0, 2);
         x.swap();
         dueList("swapped, the new old text rules", x, 0, 2);
+        dueList("a pair past the other text's length", Check.texts("3334", "4"), 3, 0);
         dueList("i1 before j1", Check.texts("7012", "7210"), 0, 0, 1, 3);
     }
 
@@ -258,6 +260,39 @@ public final class PromiseTest {
         }
     }
 
+    /** No answer may hang on another question having been asked before it, or be left over from before a change. */
+    private static void askedFirst() {
+        Check.due("10: oldAt asked first", Check.texts("10", "0").oldAt(0), 1);
+        Check.due("11: newAt asked first", Check.texts("0", "10").newAt(0), 1);
+        Check.due("12: steps asked first", Check.texts("10", "0").steps(), 2);
+        Check.due("13: step asked first", Check.texts("1", "").step(0), ThresholdDiff.TAKE);
+        Check.due("14: stepSymbol asked first", Check.texts("1", "").stepSymbol(0), 1);
+        for (int question = 0; question < 5; question++) {
+            ThresholdDiff x = Check.texts("10", "0");
+            dueAfter("texts 10 and 0", x, question, 1, 0, 2, ThresholdDiff.TAKE, 1);
+            x.append(1, 1);
+            dueAfter("append", x, question, 0, 1, 3, ThresholdDiff.PUT, 0);
+            x.swap();
+            x.change(1, 0, 0);
+            dueAfter("swap and change", x, question, 0, 0, 3, ThresholdDiff.KEEP, 0);
+            x.drop(1);
+            x.drop(1);
+            dueAfter("drop", x, question, NONE, NONE, 2, ThresholdDiff.TAKE, 0);
+        }
+    }
+
+    /** Asks one question only, the one whose number is given, and compares with its due answer. */
+    private static void dueAfter(String what, ThresholdDiff x, int question, int... due) {
+        String name = (10 + question) + ": after " + what;
+        switch (question) {
+            case 0 -> Check.due(name, x.oldAt(0), due[0]);
+            case 1 -> Check.due(name, x.newAt(0), due[1]);
+            case 2 -> Check.due(name, x.steps(), due[2]);
+            case 3 -> Check.due(name, x.step(0), due[3]);
+            default -> Check.due(name, x.stepSymbol(0), due[4]);
+        }
+    }
+
     private static void possible() {
         ThresholdDiff x = Check.texts("0120", "0210");
         boolean[] due = {
@@ -278,6 +313,11 @@ public final class PromiseTest {
         Check.due("15: not in the best list", y.possible(1, 4), true);
         Check.due("15: leaves too few", y.possible(0, 4), false);
         Check.due("15: a place of the other text only", y.possible(4, 1), false);
+        ThresholdDiff z = Check.texts("3012", "30124567");
+        Check.due("15: pairs before and after", z.possible(1, 1), true);
+        z.swap();
+        Check.due("15: pairs before and after, swapped", z.possible(1, 1), true);
+        Check.due("15: the same old place isn't used twice", Check.texts("01", "001").possible(0, 0), true);
         Check.due("15: empty", new ThresholdDiff().possible(0, 0), false);
         Check.due("15: full", Check.texts(SIXTEEN, SIXTEEN).possible(15, 15), true);
         Check.due("15: dropped", droppedFromBoth().possible(0, 0), false);
