@@ -1,7 +1,11 @@
+import java.util.function.Predicate;
+import java.util.function.ToIntFunction;
+
 /** Counts and prints the answers that are not the due ones; each test's main ends with finish. */
 final class Check {
     private static int wrong = 0;
     private static int made = 0;
+    private static String sentence = "";
 
     private Check() {
     }
@@ -10,7 +14,7 @@ final class Check {
         made++;
         if (got != want) {
             wrong++;
-            System.out.println(what + " answered " + got + ", due is " + want);
+            System.out.println(sentence + what + " answered " + got + ", due is " + want);
         }
     }
 
@@ -18,8 +22,44 @@ final class Check {
         made++;
         if (got != want) {
             wrong++;
-            System.out.println(what + " answered " + got + ", due is " + want);
+            System.out.println(sentence + what + " answered " + got + ", due is " + want);
         }
+    }
+
+    /** Runs the test of one sentence of the document, which then stands before each wrong answer. */
+    static void sentence(String words, Runnable test) {
+        sentence = words + " | ";
+        int before = made;
+        try {
+            test.run();
+        } catch (RuntimeException e) {
+            due("a call that threw " + e, true, false);
+        }
+        due("a test that looked at nothing", made == before, false);
+        sentence = "";
+    }
+
+    /** The call answers as due on an object with these texts, and leaves both as they are. */
+    static void unchanged(String what, String old, String fresh, ToIntFunction<ThresholdDiff> call, int want) {
+        ThresholdDiff x = texts(old, fresh);
+        due(what, call.applyAsInt(x), want);
+        dueTexts("after " + what, x, old, fresh);
+    }
+
+    static void unchanged(String what, String old, String fresh, Predicate<ThresholdDiff> call, boolean want) {
+        ThresholdDiff x = texts(old, fresh);
+        due(what, call.test(x), want);
+        dueTexts("after " + what, x, old, fresh);
+    }
+
+    /**
+     * Numbers that are not 0 .. greatest: the nearest ones, the farthest ones, and those that a mask, a narrow
+     * type or a product that wraps around would take for a number inside.
+     */
+    static int[] outside(int greatest) {
+        return new int[] {
+            -1, greatest + 1, greatest + 2, -2, -16, 32, 33, 256, 257, 65536, 65537,
+            1 << 27, 1 << 28, (1 << 28) + 1, Integer.MIN_VALUE, Integer.MIN_VALUE + 1, Integer.MAX_VALUE};
     }
 
     static void finish() {
