@@ -21,7 +21,7 @@ public final class QuestionBoundaryTest {
         Check.sentence("7: of both whole texts: empty", QuestionBoundaryTest::commonOfEmpty);
         Check.sentence("7: of both whole texts: full", QuestionBoundaryTest::commonOfFull);
         Check.sentence("8: the places below i, below j: none and all", QuestionBoundaryTest::upToNoneAndAll);
-        Check.sentence("8: NONE when i is not from 0 to the length of the old text", QuestionBoundaryTest::upToWrongOld);
+        Check.sentence("8: NONE when i is not from 0 to the length of the old", QuestionBoundaryTest::upToWrongOld);
         Check.sentence("8: NONE when j is not from 0 to that of the new one", QuestionBoundaryTest::upToWrongNew);
         Check.sentence("9: the places from i on, from j on: none and all", QuestionBoundaryTest::fromNoneAndAll);
         Check.sentence("9: NONE as in commonUpTo: i", QuestionBoundaryTest::fromWrongOld);
